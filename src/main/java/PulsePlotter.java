@@ -51,6 +51,7 @@ public final class PulsePlotter {
         words = new Words();
         straight = new Straight();
         arc = new Arc();
+        way = straight;
         begin();
     }
 
@@ -68,8 +69,6 @@ public final class PulsePlotter {
     }
 
     public void begin() {
-        straight.lay(0, 0, 0, 0);
-        way = straight;
         done = 0;
         left = 0;
         nextLineStart = 0;
@@ -596,7 +595,7 @@ public final class PulsePlotter {
         }
 
         private int reachAt(int v) {
-            int u = Math.abs(v);
+            int u = v < 0 ? -v : v;
             return u >= 0 && u < reach.length ? reach[u] : 0;
         }
     }

@@ -231,18 +231,20 @@ public final class PromisesTest {
         for (String bad : new String[] {"X201", "X-201", "Y201", "Y-201", "X9999", "G1F1Y-9999", "G91X200\nX1",
             "Y-200\nG91Y-1", "G2F1I101", "G3F1I-101", "G2F1J101", "G3F1J-101", "G2F1I9999J9999",
             "G2F1X9998I4999", "X120\nG2F1I41", "Y200\nG2F1I1", "G2F1X1Y1I1J0\nI-150",
-            "X142Y142\nG2F1I-142J-142"}) {
+            "X142Y142\nG2F1I-142J-142", "X195\nG2F1I2J3", "X195\nG2F1I2J4", "Y-195\nG2F1I3J-2"}) {
             dueState(bad, 107);
         }
         for (String good : new String[] {"G2F1I100", "G3F1J-100", "X-200\nG2F1I200", "Y200\nG3F1J-200",
-            "X200\nG2F1X-200I-200", "X10\nG3F1X200I95", "X141Y142\nG2F1I-141J-142"}) {
+            "X200\nG2F1X-200I-200", "X10\nG3F1X200I95", "X141Y142\nG2F1I-141J-142",
+            "X194\nG2F1I2J3", "X194\nG2F1I2J4", "Y-194\nG2F1I3J-2"}) {
             dueState(good, 100);
         }
     }
 
-    /** Makes the pulses one by one and compares the places, told as "x,y x,y ..". */
+    /** Compares the places, at one go and pulse by pulse, told as "x,y x,y ..". */
     private static void duePlaces(String program, int skip, String places) {
         int k = skip;
+        PulsePlotter stepped = ran(program, skip);
         for (String place : places.split(" ")) {
             k++;
             String[] parts = place.split(",");
@@ -250,6 +252,9 @@ public final class PromisesTest {
             Check.due(Check.show(program) + ", run(" + k + "): x()", p.x(), Integer.parseInt(parts[0]));
             Check.due(Check.show(program) + ", run(" + k + "): y()", p.y(), Integer.parseInt(parts[1]));
             Check.due(Check.show(program) + ", run(" + k + "): pulses()", p.pulses(), k);
+            Check.due(Check.show(program) + " by 1: run(1)", stepped.run(1), 1);
+            Check.due(Check.show(program) + " by 1, " + k + " pulses: x()", stepped.x(), Integer.parseInt(parts[0]));
+            Check.due(Check.show(program) + " by 1, " + k + " pulses: y()", stepped.y(), Integer.parseInt(parts[1]));
         }
         PulsePlotter p = ran(program);
         Check.due(Check.show(program) + ": pulses() in all", p.pulses(), k);
@@ -288,7 +293,8 @@ public final class PromisesTest {
         Check.due("F10000: time()", ran("G1X1F10000").time(), 100);
         Check.due("arc of 4 pulses: time()", ran("G2F6I1").time(), 4 * 166667);
         Check.due("arc of 4 pulses, counterclockwise: time()", ran("G3F6I1").time(), 4 * 166667);
-        Check.due("feeds one after another: time()", ran("F9G1X2\nX4F2\nG0X5\nG1X6").time(), 222224 + 1000000 + 100 + 500000);
+        Check.due("feeds one after another: time()", ran("F9G1X2\nX4F2\nG0X5\nG1X6").time(),
+                222224 + 1000000 + 100 + 500000);
         Check.due("time stays after a fault: time()", ran("X5\nG1F1X6?").time(), 500);
         Check.due("more than an int: time()", ran("F1G2I-99\nI-99\nI-99\nI-99").time(), 2240000000L);
     }
