@@ -45,11 +45,9 @@ public final class ReferenceTest {
                 if (i * i + j * j > 40300) {
                     break;
                 }
-                boolean dense = i <= 12;
-                if (dense || (i * 31 + j) % 97 == 0 || j == 0 || i * i + j * j > 40000) {
-                    String start = "G0X" + -i + "Y" + -j + "\n";
-                    follow(start + "G" + (2 + (i + j) % 2) + "F900I" + i + "J" + j, dense ? 1 : 37);
-                }
+                String start = "G0X" + -i + "Y" + -j + "\n";
+                int step = i <= 12 ? 1 : i * i + j * j > 40000 ? 37 : 211;
+                follow(start + "G" + (2 + (i + j) % 2) + "F900I" + i + "J" + j, step);
             }
         }
         follow("X-200\nG2F1000I200", 1);
