@@ -181,6 +181,10 @@ public final class MachineSentencesTest {
             Check.duePlaces(start + "I1J0", 20, "11,21 12,20 11,19 10,20");
             Check.duePlaces(start + "I-1J-1", 20, "10,19 10,18 9,18 8,18 8,19 8,20 9,20 10,20");
         }
+        // What is missing is 0, also when the line before had it.
+        Check.duePlaces("F1G2J1\nI1", 0, "-1,1 0,2 1,1 0,0 1,1 2,0 1,-1 0,0");
+        Check.duePlaces("F1G2I1\nJ1", 0, "1,1 2,0 1,-1 0,0 -1,1 0,2 1,1 0,0");
+        Check.dueState(106, "F1G2J1\nI0", "F1G2I1\nJ0");
     }
 
     private static void notOnTheCircle() {
@@ -253,6 +257,11 @@ public final class MachineSentencesTest {
             Check.due(Check.show(program) + ": state()", p.state(), 100);
             Check.due(Check.show(program) + ": run again", p.run(99), 0);
         }
+        // As many lines as there can be are passed over by one call.
+        Check.dueState(100, "\n".repeat(400), "\n".repeat(399) + " ", "\n".repeat(398) + "X3", "");
+        PulsePlotter most = Check.loaded("\n".repeat(400));
+        Check.due("400 lines: run(1)", most.run(1), 0);
+        Check.due("400 lines: state()", most.state(), 100);
     }
 
     private static void endIsComeTo() {

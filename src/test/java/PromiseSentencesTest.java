@@ -200,7 +200,9 @@ public final class PromiseSentencesTest {
         Check.due("run(4) to the end", p.run(4), 1);
         Check.due("run(4) behind the end", p.run(4), 0);
         Check.due("run(greatest) behind the end", p.run(ALL), 0);
-        Check.due("400 empty lines: run(1)", Check.loaded("\n".repeat(400)).run(1), 0);
+        PulsePlotter empty = Check.loaded("\n".repeat(400));
+        Check.due("400 empty lines: run(1)", empty.run(1), 0);
+        Check.due("400 empty lines, run(1): state()", empty.state(), 100);
         Check.due("398 empty lines and a move: run(1)", Check.loaded("\n".repeat(398) + "X3").run(1), 1);
         Check.due("133 moves: run", Check.loaded("X1\nX0\n".repeat(66) + "X1").run(ALL), 133);
         Check.due("99 circles: run", Check.loaded("F1G2I99\n" + "I99\n".repeat(98)).run(ALL), 99 * 560);
